@@ -1370,7 +1370,7 @@ public final class CoinSampler {
         private final Layout layout;
         private final boolean[] marked = new boolean[MAX_ITEMS];
         // From one cut to the next all starts hit the same items.
-        private final int[] cuts = new int[2 * MAX_ITEMS + 1];
+        private final int[] cuts = new int[MAX_ITEMS + 1];
         private int cutCount;
 
         Starts(Ledger ledger, Layout layout) {
@@ -1447,6 +1447,7 @@ public final class CoinSampler {
             return sum;
         }
 
+        // An item of the rest begins right behind the one ahead of it, so the ends of the items are all there is.
         private void cutUp() {
             cutCount = 0;
             if (layout.interval == 0) {
@@ -1455,7 +1456,6 @@ public final class CoinSampler {
             insertCut(1);
             for (int i = 0; i < ledger.items; i++) {
                 if (layout.firstCoin(i) > 0) {
-                    insertCut((layout.firstCoin(i) - 1) % layout.interval + 1);
                     insertCut(layout.lastCoin(i) % layout.interval + 1);
                 }
             }

@@ -78,6 +78,10 @@ public final class BoundTest {
         due("upper(387, 0)", x.upper(387, 0) < 7_723 ? 1 : 0, 1);
         due("upper(386, 0)", x.upper(386, 0) < 7_723 ? 1 : 0, 0);
         due("none up to 400", x.size(18), NONE);
+        CoinSampler y = new CoinSampler();
+        y.add(1, 1, 99_999);
+        due("99,999 by 0.007462 are 746", y.size(746), 400);
+        due("one less", y.size(745), NONE);
         due("0", x.size(0), -3);
         due("above", x.size(10_000_000), -3);
         due("the greatest", x.size(9_999_999), 1);
@@ -166,10 +170,20 @@ public final class BoundTest {
         due("the least is the last", x.taint(2, 0), 0);
         due("its taint", x.taint(2, 1), 2_000);
         due("k", x.taint(-1, 0), -2);
+        due("the least taint", leastTaint(), 1);
         due("what", x.taint(0, 3), -2);
         due("what", x.taint(0, -1), -2);
         x.clear();
         due("no run", x.taint(0, 0), -2);
+    }
+
+    private static int leastTaint() {
+        CoinSampler x = new CoinSampler();
+        x.add(1, 1, 10_000);
+        x.interval(10_001);
+        x.audit(0, 9_999);
+        x.draw();
+        return x.taint(0, 1);
     }
 
     private static void bound() {
@@ -259,6 +273,12 @@ public final class BoundTest {
         due("no run", x.judged(), 0);
         x.draw();
         due("lacking", x.judged(), 1);
+        x.audit(0, 1_000);
+        x.audit(5, 700);
+        due("those that are hit are lacking", x.judged(), 1);
+        x.audit(1, 300);
+        x.audit(6, 90);
+        due("nothing is", x.judged(), 2);
         CoinSampler y = Checks.audited(1);
         due("accepted", y.judged(), 2);
         y.terms(0, 825);

@@ -66,6 +66,9 @@ public final class ItemsTest {
         CoinSampler y = Checks.ledger();
         due("no interval: none is certain", y.item(0, 6), 0);
         due("no interval: all coins are of the rest", y.item(1, 8), 1_001);
+        y.post(1, 1);
+        due("one coin", y.item(1, 8), 1_001);
+        due("behind one coin", y.item(2, 8), 1_002);
     }
 
     private static void itemRefused() {

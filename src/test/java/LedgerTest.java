@@ -161,6 +161,9 @@ public final class LedgerTest {
         faulty("item ", 1, 5);
         faulty("items 1 1 1;", 1, 0);
         faulty("ite m 1 1 1;", 1, 0);
+        faulty("itemz 1 1 1;", 1, 0);
+        faulty("aitem 1 1 1;", 1, 0);
+        faulty("xtem 1 1 1;", 1, 0);
         faulty("Item 1 1 1;", 1, 0);
         faulty("7;", 1, 0);
         faulty("item 1 1 1", 1, 10);

@@ -1,14 +1,13 @@
-import java.lang.reflect.InvocationTargetException;
 import java.lang.reflect.Method;
 import java.util.ArrayList;
 import java.util.Arrays;
-import java.util.Comparator;
 import java.util.List;
 import java.util.Random;
 
 /** Compares the program with PlainSampler along runs of calls that are always the same ones. */
 public final class ModelTest {
-    private static final String WRITERS = "feed text terms add post audit forget interval plan draw clear";
+    private static final List<String> WRITERS = List.of("feed", "text", "terms", "add", "post", "audit", "forget",
+        "interval", "plan", "draw", "clear");
 
     // Of which argument how many values stand for something, from 0 on.
     private static final String WHATS = "fault0=2 item1=9 coin1=3 hit1=4 account1=6 projected0=5 taint1=3 bound0=5"
@@ -53,7 +52,7 @@ public final class ModelTest {
         for (int round = 0; round < rounds && !wrong; round++) {
             change();
             for (int i = 0; i < (isLarge ? 20 : 60) && !wrong && calls < 480; i++) {
-                ask(randomMethod(false));
+                ask(randomReader());
             }
         }
     }
@@ -184,22 +183,12 @@ public final class ModelTest {
         return text.charAt(i) << 24 | text.charAt(i + 1) << 16 | text.charAt(i + 2) << 8 | text.charAt(i + 3);
     }
 
-    private static final List<Method> FACE = face();
-
-    private static List<Method> face() {
-        List<Method> face = new ArrayList<>(Arrays.asList(PlainSampler.class.getDeclaredMethods()));
-        face.removeIf(m -> !java.lang.reflect.Modifier.isPublic(m.getModifiers()));
-        face.sort(Comparator.comparing(Method::getName));
-        return face;
-    }
-
-    private Method randomMethod(boolean mayWrite) {
-        while (true) {
-            Method method = FACE.get(random.nextInt(FACE.size()));
-            if (mayWrite || !List.of(WRITERS.split(" ")).contains(method.getName())) {
-                return method;
-            }
-        }
+    private Method randomReader() {
+        Method method;
+        do {
+            method = Face.METHODS.get(random.nextInt(Face.METHODS.size()));
+        } while (WRITERS.contains(method.getName()));
+        return method;
     }
 
     private void ask(Method method) {
@@ -249,25 +238,12 @@ public final class ModelTest {
             return;
         }
         calls++;
-        int got = answer(program, name, args);
-        int due = answer(model, name, args);
+        int got = Face.answer(program, name, args);
+        int due = Face.answer(model, name, args);
         told.append("\n  ").append(name).append(Arrays.toString(args)).append(" = ").append(got);
         if (got != due) {
             wrong = true;
             told.append(", the model answers ").append(due);
-        }
-    }
-
-    private static int answer(Object object, String name, int[] args) {
-        try {
-            Class<?>[] types = new Class<?>[args.length];
-            Arrays.fill(types, int.class);
-            Object[] boxed = Arrays.stream(args).boxed().toArray();
-            return (int) object.getClass().getMethod(name, types).invoke(object, boxed);
-        } catch (InvocationTargetException e) {
-            throw new IllegalStateException(name + Arrays.toString(args) + " threw", e.getCause());
-        } catch (ReflectiveOperationException e) {
-            throw new IllegalStateException("there is no " + name, e);
         }
     }
 }

@@ -73,6 +73,8 @@ public final class PaperTest {
         x.forget(5);
         x.audit(1, 301);
         due("no error above 0", x.dearest(), NONE);
+        x.audit(5, 699);
+        due("an error of 1", x.dearest(), 5);
         x.clear();
         due("no run", x.dearest(), -5);
         due("no interval", Checks.ledger().dearest(), -5);
@@ -291,6 +293,12 @@ public final class PaperTest {
         late.interval(600);
         late.audit(1, 0);
         due("the first coin of the second item", late.worst(0), 6);
+        late.add(1, 3, 2);
+        late.audit(2, 1);
+        due("not a later one of less", late.worst(0), 6);
+        late.audit(1, 1);
+        late.audit(2, 0);
+        due("a later one of more", late.worst(0), 8);
     }
 
     private static void chance() {
@@ -375,6 +383,11 @@ public final class PaperTest {
         }
         due("count(15)", x.count(15), NONE);
         due("count(-1)", x.count(-1), NONE);
+        CoinSampler first = new CoinSampler();
+        first.add(1, 1, 5);
+        first.interval(6);
+        first.draw();
+        due("the first item is hit", first.count(6), 1);
         CoinSampler y = Checks.ledger();
         due("no interval: all coins are of the rest", y.count(2), 2_590);
     }
