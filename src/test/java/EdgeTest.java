@@ -29,7 +29,7 @@ public final class EdgeTest {
         }
         int items = state == 1 ? 1 : 48;
         for (int i = 0; i < items; i++) {
-            both("add", i % 7, i, state == 2 ? -i : i == 3 ? 0 : 9 + i);
+            both("add", i % 7, i, state == 2 ? -i : state == 4 && i == 3 ? 0 : 9 + i);
             both("audit", i, i % 5 == 4 ? 2 * i : i / 2);
         }
         if (state >= 3) {

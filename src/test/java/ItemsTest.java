@@ -96,6 +96,11 @@ public final class ItemsTest {
         due("hit", x.coin(867, 2), 1);
         due("hit by the other", x.coin(478, 2), 1);
         due("not hit", x.coin(268, 2), 0);
+        x.clear();
+        x.terms(4, 7);
+        x.draw();
+        due("hit anew", x.coin(867, 2), 1);
+        due("hit by a run that is no more", x.coin(478, 2), 0);
         due("coin 0", x.coin(0, 0), -2);
         due("coin -1", x.coin(-1, 0), -2);
         due("behind the last", x.coin(891, 0), -2);

@@ -139,6 +139,9 @@ public final class LedgerTest {
         due("of no byte", x.text(0), 0);
         due("no fault", x.fault(0), 0);
         due("no place", x.fault(1), NONE);
+        Checks.feed(x, "item 1 1 1;");
+        due("what is behind the first bytes doesn't count", x.text(10), -31);
+        due("the end is behind the first bytes", x.fault(1), 10);
         Checks.tell(x, "audit 1 1 1;");
         due("fault(0)", x.fault(0), 3);
         Checks.tell(x, "item 1 1 1;");

@@ -158,6 +158,15 @@ public final class PaperTest {
         x.terms(0, 432);
         due("none", x.risky(), NONE);
         due("risk stays", x.count(11), 50);
+        CoinSampler large = new CoinSampler();
+        large.add(1, 1, 90_000);
+        large.interval(99_999);
+        large.draw();
+        large.terms(0, 45_000);
+        due("a half of 90,000", large.risky(), 500);
+        // 501 thousandths would do, but no such risk may be told.
+        large.terms(0, 44_999);
+        due("none", large.risky(), NONE);
         x.terms(3, 1);
         due("net", x.risky() < 500 ? 1 : 0, 1);
         x.clear();
