@@ -7,6 +7,7 @@ public final class BoundTest {
         upper();
         upperByRisk();
         size();
+        upperFalls();
         projected();
         projectedCut();
         taint();
@@ -98,6 +99,22 @@ public final class BoundTest {
         }
         due("no coins", new CoinSampler().size(5), -5);
         due("no coins, a number that can't be", new CoinSampler().size(0), -3);
+    }
+
+    // The program looks for a size by halving, which is right as long as upper bounds fall.
+    private static void upperFalls() {
+        Checks.promise(26);
+        CoinSampler x = new CoinSampler();
+        for (int risk : new int[] {1, 7, 50, 250, 500}) {
+            x.terms(1, risk);
+            for (int k = 0; k < 10; k++) {
+                int rising = 0;
+                for (int n = k + 1; n <= 400; n++) {
+                    rising += x.upper(n, k) >= x.upper(n - 1, k) ? 1 : 0;
+                }
+                due("upper bounds that rise by " + risk + ", " + k, rising, 0);
+            }
+        }
     }
 
     private static void projected() {

@@ -33,7 +33,7 @@ public final class EdgeTest {
             both("audit", i, i % 5 == 4 ? 2 * i : i / 2);
         }
         if (state >= 3) {
-            both("interval", state == 3 ? 57 : state == 4 ? 20 : 5);
+            both("interval", state == 3 ? 59 : state == 4 ? 20 : 5);
             both("terms", 3, state % 2);
         }
         for (int r = 0; r < 5 && state != 4; r++) {
