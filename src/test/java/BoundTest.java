@@ -104,13 +104,16 @@ public final class BoundTest {
     // The program looks for a size by halving, which is right as long as upper bounds fall.
     private static void upperFalls() {
         Checks.promise(26);
-        CoinSampler x = new CoinSampler();
         for (int risk : new int[] {1, 7, 50, 250, 500}) {
-            x.terms(1, risk);
             for (int k = 0; k < 10; k++) {
+                CoinSampler x = new CoinSampler();
+                x.terms(1, risk);
                 int rising = 0;
+                int ahead = x.upper(k, k);
                 for (int n = k + 1; n <= 400; n++) {
-                    rising += x.upper(n, k) >= x.upper(n - 1, k) ? 1 : 0;
+                    int upper = x.upper(n, k);
+                    rising += upper >= ahead ? 1 : 0;
+                    ahead = upper;
                 }
                 due("upper bounds that rise by " + risk + ", " + k, rising, 0);
             }

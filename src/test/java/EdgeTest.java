@@ -6,6 +6,8 @@ public final class EdgeTest {
     private static final int[] ODD = {Integer.MIN_VALUE, -10_000_000, -2, -1, 0, 1, 2, 5, 9, 15, 47, 48, 49, 400, 401,
         9_999_999, 10_000_000, Integer.MAX_VALUE - 1, Integer.MAX_VALUE};
     private static final int STATES = 6;
+    // Some 110 calls make a state, and nothing is promised of an object behind its 512th.
+    private static final int ASKED_OF_ONE = 400;
 
     private CoinSampler program;
     private PlainSampler model;
@@ -14,11 +16,27 @@ public final class EdgeTest {
         EdgeTest test = new EdgeTest();
         for (int state = 0; state < STATES; state++) {
             for (Method method : Face.METHODS) {
-                test.make(state);
                 test.askAll(method, state);
             }
         }
+        new EdgeTest().liveLong();
         Checks.end("EdgeTest");
+    }
+
+    // What comes behind the 512th call is free, but for this: no call ever throws or fails to end.
+    private void liveLong() {
+        make(3);
+        for (int call = 0; call < 20_000; call++) {
+            Method method = Face.METHODS.get(call % Face.METHODS.size());
+            if (method.getName().equals("risky")) {
+                continue;
+            }
+            int[] args = new int[method.getParameterCount()];
+            for (int i = 0; i < args.length; i++) {
+                args[i] = ODD[(call / 7 + call / 91 * (i + 3)) % ODD.length];
+            }
+            Face.answer(program, method.getName(), args);
+        }
     }
 
     private void make(int state) {
@@ -48,6 +66,7 @@ public final class EdgeTest {
     private void askAll(Method method, int state) {
         int count = method.getParameterCount();
         if (count == 5) {
+            make(state);
             for (int i = 0; i < 50; i++) {
                 both("feed", ODD[i % ODD.length], 0, -i, i, ODD[i % 3]);
             }
@@ -55,6 +74,9 @@ public final class EdgeTest {
         }
         int mixes = (int) Math.round(Math.pow(ODD.length, count));
         for (int mix = 0; mix < mixes; mix++) {
+            if (mix % ASKED_OF_ONE == 0) {
+                make(state);
+            }
             int[] args = new int[count];
             int left = mix;
             for (int i = 0; i < count; i++) {

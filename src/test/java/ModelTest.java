@@ -13,6 +13,9 @@ public final class ModelTest {
     private static final String WHATS = "fault0=2 item1=9 coin1=3 hit1=4 account1=6 projected0=5 taint1=3 bound0=5"
         + " below0=4 step1=4 trial1=4 worst0=2 chance0=2 were2=4 count0=15";
 
+    // Nothing is promised of an object behind that.
+    private static final int MOST_CALLS = 512;
+
     private final Random random;
     private final CoinSampler program = new CoinSampler();
     private final PlainSampler model = new PlainSampler();
@@ -234,7 +237,7 @@ public final class ModelTest {
     }
 
     private void call(String name, int... args) {
-        if (wrong) {
+        if (wrong || calls == MOST_CALLS) {
             return;
         }
         calls++;

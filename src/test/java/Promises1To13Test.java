@@ -50,6 +50,55 @@ public final class Promises1To13Test {
         due("runs of the other", y.count(4), 0);
     }
 
+    @Says("An empty LEDGER.")
+    static void promise1_whatIsAskedBeforeThereIsAnything() {
+        keeps(CoinSampler::new, "text of a byte", x -> x.text(1), -3);
+        keeps(CoinSampler::new, "text of none", x -> x.text(0), 0);
+        keeps(CoinSampler::new, "fault", x -> x.fault(0), 0);
+        keeps(CoinSampler::new, "post", x -> x.post(0, 0), REFUSED);
+        keeps(CoinSampler::new, "audit", x -> x.audit(0, 0), -2);
+        keeps(CoinSampler::new, "forget", x -> x.forget(0), -2);
+        keeps(CoinSampler::new, "plan", CoinSampler::plan, -5);
+        keeps(CoinSampler::new, "draw", CoinSampler::draw, -5);
+        keeps(CoinSampler::new, "clear", CoinSampler::clear, 0);
+        keeps(CoinSampler::new, "find", x -> x.find(0, 0), NONE);
+        keeps(CoinSampler::new, "item", x -> x.item(0, 0), REFUSED);
+        keeps(CoinSampler::new, "coin", x -> x.coin(1, 0), -2);
+        keeps(CoinSampler::new, "hit", x -> x.hit(0, 0), -2);
+        keeps(CoinSampler::new, "start", x -> x.start(0), -2);
+        keeps(CoinSampler::new, "certain", x -> x.certain(0), NONE);
+        keeps(CoinSampler::new, "lacking", x -> x.lacking(0), NONE);
+        keeps(CoinSampler::new, "account", x -> x.account(0, 5), 0);
+        keeps(CoinSampler::new, "accounts", x -> x.accounts(0), NONE);
+        keeps(CoinSampler::new, "drawn", x -> x.drawn(0), NONE);
+        keeps(CoinSampler::new, "line", x -> x.line(0, 0), -2);
+        keeps(CoinSampler::new, "upper", x -> x.upper(0, 0), 1_000_000);
+        keeps(CoinSampler::new, "size", x -> x.size(1), -5);
+        keeps(CoinSampler::new, "projected", x -> x.projected(0), REFUSED);
+        keeps(CoinSampler::new, "taint", x -> x.taint(0, 0), -2);
+        keeps(CoinSampler::new, "bound", x -> x.bound(0), REFUSED);
+        keeps(CoinSampler::new, "below", x -> x.below(0), REFUSED);
+        keeps(CoinSampler::new, "judged", CoinSampler::judged, 0);
+    }
+
+    @Says("An empty LEDGER.")
+    static void promise1_whatIsAskedOnPaperBeforeThereIsAnything() {
+        keeps(CoinSampler::new, "would", x -> x.would(0, 0), REFUSED);
+        keeps(CoinSampler::new, "dearest", CoinSampler::dearest, -5);
+        keeps(CoinSampler::new, "more", CoinSampler::more, -5);
+        keeps(CoinSampler::new, "step", x -> x.step(1, 0), REFUSED);
+        keeps(CoinSampler::new, "risky", CoinSampler::risky, -5);
+        keeps(CoinSampler::new, "sizes", x -> x.sizes(0), -5);
+        keeps(CoinSampler::new, "trial", x -> x.trial(1, 0), -5);
+        keeps(CoinSampler::new, "covered", CoinSampler::covered, 0);
+        keeps(CoinSampler::new, "caught", x -> x.caught(0), -5);
+        keeps(CoinSampler::new, "worst", x -> x.worst(0), -5);
+        keeps(CoinSampler::new, "chance", x -> x.chance(0), -5);
+        keeps(CoinSampler::new, "were", x -> x.were(1, 1, 2), 0);
+        keeps(CoinSampler::new, "both", x -> x.both(0, 0), -2);
+        keeps(CoinSampler::new, "count", x -> x.count(0), 0);
+    }
+
     // ---- promise 2
 
     @Says("Twenty bytes come behind those on THE TAPE,")
@@ -167,6 +216,30 @@ public final class Promises1To13Test {
         CoinSampler y = Checks.audited(3);
         due("of blanks", Checks.tell(y, "     "), 0);
         due("items", y.count(0), 0);
+    }
+
+    @Says("The first n bytes of THE TAPE")
+    static void promise3_theFullText() {
+        StringBuilder text = new StringBuilder();
+        for (int i = 0; i < 48; i++) {
+            text.append("item1 ").append(i).append(" 1;");
+        }
+        for (int i = 0; i < 40; i++) {
+            text.append(i < 2 || i >= 10 ? "audit1 " + i + " 2;" : "");
+        }
+        due("bytes", text.length(), 900);
+        CoinSampler x = new CoinSampler();
+        due("text", Checks.tell(x, text.toString()), 48);
+        due("coins", x.count(1), 48);
+        due("audited", x.count(8), 32);
+        due("the last one", x.item(39, 3), 2);
+        Checks.feed(x, text.toString());
+        due("all but the last byte", x.text(899), -31);
+        due("its place", x.fault(1), 899);
+        Checks.feed(x, text.toString().replace("audit1 39 2;", "audit1 39 3;"));
+        due("too much in the last line", x.text(900), -33);
+        due("its place", x.fault(1), 888);
+        due("items", x.count(0), 48);
     }
 
     @Says({"(INTERVAL is 0,", "there are no RUNS,"})

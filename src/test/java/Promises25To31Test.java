@@ -174,6 +174,12 @@ public final class Promises25To31Test {
         CoinSampler certain = Checks.sampled(1);
         certain.audit(0, 0);
         ranked(certain);
+        CoinSampler least = Sentences.single(10_000, 10_001, 7);
+        least.draw();
+        for (int audited : new int[] {9_999, 10_000, 10_001}) {
+            least.audit(0, audited);
+            due("a taint of " + (10_000 - audited), least.taint(0, 1), audited < 10_000 ? 1 : -2);
+        }
     }
 
     @Says("the greatest first (of like ones that of the lower HIT),")

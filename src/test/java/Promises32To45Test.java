@@ -265,6 +265,9 @@ public final class Promises32To45Test {
         x.audit(2, 0);
         due("what later runs hit doesn't count", x.step(1, 1), 825);
         due("by two it does", x.step(2, 1) > 825 ? 1 : 0, 1);
+        x.audit(2, 1_000);
+        x.terms(3, 1);
+        due("nor what it takes off by NET", x.step(1, 1), 715);
     }
 
     private static void steps(int what, int... due) {
@@ -550,13 +553,39 @@ public final class Promises32To45Test {
         x.audit(0, 0);
         caught(x, 592, 8);
         caught(withoutCoins(), 10);
-        CoinSampler full = Sentences.full();
-        full.interval(57);
+        CoinSampler full = fullOfErrors();
+        // M is 1,560: 26 times 59, and 26 more.
+        due("none", full.caught(0), 0);
+        due("one less than the fewest", full.caught(25), 0);
+        due("the fewest", full.caught(26), 33);
+        due("the most", full.caught(27), 26);
+        due("one more than the most", full.caught(28), 0);
+        due("all items", full.caught(48), 0);
+    }
+
+    /** 48 items of the rest that are worth nothing, an interval of 59. */
+    private static CoinSampler fullOfErrors() {
+        CoinSampler x = Sentences.full();
+        x.interval(59);
         for (int i = 0; i < 48; i++) {
-            full.audit(i, 0);
+            x.audit(i, 0);
         }
-        // M is 1,560: 27 times 57, and 21 more.
-        caught(full, 0, 0, 0, 0, 0, 0, 0, 0, 0, 0, 0, 0, 0, 0, 0, 0, 0, 0, 0, 0, 0, 0, 0, 0, 0, 0, 0, 36, 21);
+        return x;
+    }
+
+    @Says("How many STARTS (1 to INTERVAL)")
+    static void promise40_ofTheIntervalAsItIsNow() {
+        CoinSampler x = noRun();
+        for (int i = 0; i < 60; i++) {
+            due("caught(2)", x.caught(2), 90);
+        }
+        x.interval(400);
+        // Items 1 and 6 alone are of the rest.
+        caught(x, 10, 390);
+        x.post(6, 80);
+        caught(x, 100, 300);
+        due("the greatest interval", x.interval(99_999), 0);
+        due("all starts", x.caught(0) + x.caught(1) + x.caught(2) + x.caught(3) + x.caught(4), 99_999);
     }
 
     @Says("of those ITEMS of THE REST that have an ERROR.")
@@ -633,12 +662,7 @@ public final class Promises32To45Test {
 
     @Says("how much that is (1).")
     static void promise41_howMuchThatIs() {
-        CoinSampler full = Sentences.full();
-        full.interval(57);
-        for (int i = 0; i < 48; i++) {
-            full.audit(i, 0);
-        }
-        worst(full, 1, 280_000);
+        worst(fullOfErrors(), 1, 270_000);
         due("nothing audited", Checks.sampled(0).worst(1), 0);
     }
 
@@ -819,6 +843,8 @@ public final class Promises32To45Test {
         round.add(1, 4, 12);
         due("591 to 600, 590 to 600 and 1", round.both(1, 3), 10);
         due("1 to 589, 1 and 590 to 600", round.both(2, 3), 1);
+        due("1 to 590, 1 to 589", round.both(0, 2), 589);
+        due("1 to 590 of itself", round.both(0, 0), 590);
     }
 
     @Says("-2: an ITEM,")

@@ -247,6 +247,10 @@ public final class Terms1Test {
         faulty("itemaudit 1 1 1;", 1, 0);
         faulty("ite 1 1 1;", 1, 0);
         faulty("audi 1 1 1;", 1, 0);
+        faulty("xtem 1 1 1;", 1, 0);
+        faulty("iten 1 1 1;", 1, 0);
+        faulty("budit 1 1 1;", 1, 0);
+        faulty("audis 1 1 1;", 1, 0);
         faulty("aitem 1 1 1;", 1, 0);
         // 96, 123 and great letters aren't of a word.
         faulty("item`1 1 1;", 1, 4);

@@ -101,6 +101,8 @@ public final class Terms2Test {
         due("s is just the risk", byRisk(250).upper(1, 0), 750_000);
         due("s is just the risk", byRisk(125).upper(1, 0), 875_000);
         due("s is just the risk", byRisk(250).upper(2, 0), 500_000);
+        due("s would be just the risk by a lesser k", byRisk(250).upper(2, 1), 866_026);
+        due("s would be just the risk by a lesser k", byRisk(125).upper(3, 1), 778_938);
         due("s is a little more than the risk", byRisk(50).upper(1, 0), 950_001);
         due("s is a little more than the risk", byRisk(20).upper(1, 0), 980_001);
     }
