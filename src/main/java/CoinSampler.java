@@ -367,11 +367,10 @@ public final class CoinSampler {
         if (!estimate.hasRank(k)) {
             return NO_SUCH;
         }
-        int hit = estimate.ranked[k];
         switch (what) {
-            case 0: return hit;
-            case 1: return estimate.taintOfHit(hit);
-            case 2: return estimate.rise(k, ABOVE);
+            case 0: return estimate.ranked[k];
+            case 1: return estimate.rankedTaint[k];
+            case 2: return estimate.rise(k);
             default: return NO_SUCH;
         }
     }
@@ -797,7 +796,7 @@ public final class CoinSampler {
         }
 
         boolean isAudited(int i) {
-            return holds(i) && audited[i] != NONE;
+            return i >= 0 && i < items && audited[i] != NONE;
         }
 
         int auditedItems() {
@@ -986,6 +985,7 @@ public final class CoinSampler {
         int certainItems;
         private final Ledger ledger;
         private final int[] first = new int[MAX_ITEMS];
+        private final int[] last = new int[MAX_ITEMS];
 
         Layout(Ledger ledger) {
             this.ledger = ledger;
@@ -998,11 +998,13 @@ public final class CoinSampler {
             certainItems = 0;
             for (int i = 0; i < ledger.items; i++) {
                 first[i] = 0;
+                last[i] = 0;
                 if (isCertain(i)) {
                     certainItems++;
                 } else if (ledger.coinsOf(i) > 0) {
                     first[i] = coins + 1;
                     coins += ledger.coinsOf(i);
+                    last[i] = coins;
                 }
             }
         }
@@ -1017,12 +1019,12 @@ public final class CoinSampler {
         }
 
         int lastCoin(int i) {
-            return firstCoin(i) == 0 ? 0 : first[i] + ledger.coinsOf(i) - 1;
+            return ledger.holds(i) ? last[i] : 0;
         }
 
         int ownerOf(int c) {
             for (int i = 0; i < ledger.items; i++) {
-                if (first[i] > 0 && c >= first[i] && c <= lastCoin(i)) {
+                if (first[i] > 0 && c >= first[i] && c <= last[i]) {
                     return i;
                 }
             }
@@ -1240,6 +1242,8 @@ public final class CoinSampler {
     /** What the hits make for all, by the first runs, more hits without a taint, another risk. */
     private static final class Estimate {
         final int[] ranked = new int[MAX_HITS];
+        // Without sign.
+        final int[] rankedTaint = new int[MAX_HITS];
         private int ranks;
         private int runs;
         private int hits;
@@ -1268,10 +1272,6 @@ public final class CoinSampler {
             hits = walk.hitsOf(firstRuns);
             n = hits + moreHits;
             risk = otherRisk;
-        }
-
-        int taintOfHit(int h) {
-            return walk.hasHit(h) ? ledger.taintOf(walk.hitItem[h]) : 0;
         }
 
         int projectionOfHit(int item) {
@@ -1306,15 +1306,17 @@ public final class CoinSampler {
         // The hits whose taints lie on a side, the greatest first, of like ones the lower first.
         void rank(int side) {
             ranks = 0;
-            for (int h = 0; h < hits && ranks < MAX_HITS; h++) {
-                int taint = side * taintOfHit(h);
+            for (int h = 0; h < hits && walk.hasHit(h) && ranks < MAX_HITS; h++) {
+                int taint = side * ledger.taintOf(walk.hitItem[h]);
                 if (taint > 0) {
                     int place = ranks;
-                    while (place > 0 && side * taintOfHit(ranked[place - 1]) < taint) {
+                    while (place > 0 && rankedTaint[place - 1] < taint) {
                         ranked[place] = ranked[place - 1];
+                        rankedTaint[place] = rankedTaint[place - 1];
                         place--;
                     }
                     ranked[place] = h;
+                    rankedTaint[place] = taint;
                     ranks++;
                 }
             }
@@ -1324,19 +1326,19 @@ public final class CoinSampler {
             return k >= 0 && k < ranks;
         }
 
-        int rise(int k, int side) {
+        int rise(int k) {
             if (!hasRank(k)) {
                 return 0;
             }
             long width = factors.upperOf(n, k + 1, risk) - factors.upperOf(n, k, risk);
-            return (int) (layout.coins * width * (side * taintOfHit(ranked[k])) / 10_000_000_000L);
+            return (int) (layout.coins * width * rankedTaint[k] / 10_000_000_000L);
         }
 
         int rises(int side) {
             rank(side);
             int sum = 0;
             for (int k = 0; k < ranks; k++) {
-                sum += rise(k, side);
+                sum += rise(k);
             }
             return sum;
         }
