@@ -14,7 +14,7 @@ import java.util.regex.Pattern;
 /** Whether each word of the document's terms and promises is one that a test of its own quotes. */
 public final class DocumentTest {
     private static final Path DOCUMENT = Path.of("../shared/DOC.md");
-    static final List<Class<?>> TESTS = List.of(Terms1Test.class, Terms2Test.class, Terms3Test.class,
+    static final List<Class<?>> TESTS = List.of(FaceTest.class, Terms1Test.class, Terms2Test.class, Terms3Test.class,
         Promises1To13Test.class, Promises14To24Test.class, Promises25To31Test.class, Promises32To45Test.class);
 
     private static int wrong = 0;
@@ -48,11 +48,12 @@ public final class DocumentTest {
         }
     }
 
-    /** The parts that tests are named after: whatItIs, constants, terms1 to terms3, promise1 and so on. */
+    /** The parts that tests are named after: whatItIs, face, constants, terms1 to terms3, promise1 and so on. */
     private static Map<String, String> parts(String document) {
         Map<String, String> parts = new LinkedHashMap<>();
         String text = document.replaceAll("```\\w*", " ").replaceAll("\\s+", " ");
         put(parts, "whatItIs", text, "(An object is used .*?;)");
+        put(parts, "face", text, "## The public face (.*?) ## Terms");
         put(parts, "constants", text, "The constants: `(NONE = -1)`: (There is none\\.)");
         put(parts, "terms1", text, "==== 1\\. (.*?)==== 2\\.");
         put(parts, "terms2", text, "==== 2\\. (.*?)==== 3\\.");
@@ -61,7 +62,7 @@ public final class DocumentTest {
         while (promise.find()) {
             parts.put("promise" + promise.group(1), promise.group(2));
         }
-        check("45 promises are found", parts.size() == 50);
+        check("45 promises are found", parts.size() == 51);
         return parts;
     }
 
@@ -82,7 +83,7 @@ public final class DocumentTest {
         String part = test.getName().replaceAll("_.*", "");
         check(test.getName() + " is of no part", parts.containsKey(part));
         for (String quote : test.getAnnotation(Says.class).value()) {
-            Matcher matcher = Pattern.compile("(?<=^|\\W)" + Pattern.quote(quote)).matcher(parts.getOrDefault(part, ""));
+            Matcher matcher = Pattern.compile("(?<=^|\\W)" + Pattern.quote(quote.replaceAll("\\s+", " "))).matcher(parts.getOrDefault(part, ""));
             boolean isThere = false;
             while (matcher.find()) {
                 isThere = true;
