@@ -83,7 +83,8 @@ public final class DocumentTest {
         String part = test.getName().replaceAll("_.*", "");
         check(test.getName() + " is of no part", parts.containsKey(part));
         for (String quote : test.getAnnotation(Says.class).value()) {
-            Matcher matcher = Pattern.compile("(?<=^|\\W)" + Pattern.quote(quote.replaceAll("\\s+", " "))).matcher(parts.getOrDefault(part, ""));
+            String words = Pattern.quote(quote.replaceAll("\\s+", " "));
+            Matcher matcher = Pattern.compile("(?<=^|\\W)" + words).matcher(parts.getOrDefault(part, ""));
             boolean isThere = false;
             while (matcher.find()) {
                 isThere = true;

@@ -19,14 +19,16 @@ public final class EdgeTest {
                 test.askAll(method, state);
             }
         }
-        new EdgeTest().liveLong();
+        new EdgeTest().askInTurn();
         Checks.end("EdgeTest");
     }
 
-    // What comes behind the 512th call is free, but for this: no call ever throws or fails to end.
-    private void liveLong() {
-        make(3);
+    // One method behind another, each of which may change what the next ones find; risky() is dear, and asked above.
+    private void askInTurn() {
         for (int call = 0; call < 20_000; call++) {
+            if (call % ASKED_OF_ONE == 0) {
+                make(1 + call / ASKED_OF_ONE % (STATES - 1));
+            }
             Method method = Face.METHODS.get(call % Face.METHODS.size());
             if (method.getName().equals("risky")) {
                 continue;
@@ -35,7 +37,7 @@ public final class EdgeTest {
             for (int i = 0; i < args.length; i++) {
                 args[i] = ODD[(call / 7 + call / 91 * (i + 3)) % ODD.length];
             }
-            Face.answer(program, method.getName(), args);
+            both(method.getName(), args);
         }
     }
 

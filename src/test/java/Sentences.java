@@ -18,6 +18,23 @@ final class Sentences {
 
     private Sentences() { }
 
+    /** Runs the tests of single sentences by their names. */
+    public static void main(String[] names) {
+        int missing = names.length;
+        int broken = 0;
+        for (Class<?> tests : DocumentTest.TESTS) {
+            for (Method test : testsOf(tests)) {
+                if (Arrays.asList(names).contains(test.getName())) {
+                    missing--;
+                    broken += holds(test) ? 0 : 1;
+                }
+            }
+        }
+        System.out.println(names.length + " sentences, " + missing + " of them unknown, " + broken + " broken, "
+            + checked + " answers");
+        System.exit(missing == 0 && broken == 0 ? 0 : 1);
+    }
+
     static List<Method> testsOf(Class<?> tests) {
         return Arrays.stream(tests.getDeclaredMethods()).filter(m -> m.isAnnotationPresent(Says.class))
             .sorted(Comparator.comparing(Method::getName)).toList();
