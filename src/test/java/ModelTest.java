@@ -171,6 +171,7 @@ public final class ModelTest {
     private void spoil(StringBuilder text) {
         int at = random.nextInt(text.length());
         String bad = new String[] {" ", ";", "-", "x", "9", "00000", "\u00e9", "\t", "item", "audit 1"}[random.nextInt(10)];
+        bad = random.nextBoolean() ? bad : String.valueOf((char) random.nextInt(256));
         int digit = Math.max(0, text.lastIndexOf(String.valueOf(random.nextInt(10)), at));
         switch (random.nextInt(6)) {
             case 0 -> text.replace(at, at + 1, bad);

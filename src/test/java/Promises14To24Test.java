@@ -386,6 +386,12 @@ public final class Promises14To24Test {
         due("those audited alone", x.account(1, 3), 60);
         x.audit(2, 480);
         due("with sign", x.account(2, 3), 11);
+        CoinSampler y = Checks.sampled(1);
+        y.audit(2, 450);
+        due("one that is neither hit nor certain", y.account(2, 3), 50);
+        CoinSampler z = Checks.ledger();
+        z.audit(1, 0);
+        due("no interval", z.account(1, 3), 300);
         accounts(Checks.ledger(), 3, 0, 0, 0, 0, 0);
     }
 
@@ -393,6 +399,7 @@ public final class Promises14To24Test {
     static void promise21_howManyAreCertain() {
         accounts(Checks.audited(3), 4, 0, 1, 0, 0, 1);
         accounts(Checks.ledger(), 4, 0, 0, 0, 0, 0);
+        accounts(Checks.audited(0), 4, 0, 1, 0, 0, 1);
     }
 
     @Says("5 PROJECTED of their HITS, those below 0 with sign")
@@ -514,6 +521,8 @@ public final class Promises14To24Test {
         lineOf(x, 3, "2/16 90x1 =99");
         x.audit(0, 0);
         lineOf(x, 0, "1/10 1000! =0");
+        x.audit(0, 1_000);
+        lineOf(x, 0, "1/10 1000! =1000");
         x.forget(0);
         lineOf(x, 0, "1/10 1000!");
         CoinSampler y = new CoinSampler();

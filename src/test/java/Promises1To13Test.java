@@ -267,6 +267,11 @@ public final class Promises1To13Test {
         x.draw();
         x.text(0);
         due("s of another seed", x.count(9), 99);
+        x.terms(4, 1_000_003);
+        x.interval(5);
+        x.draw();
+        x.text(0);
+        due("s of the greatest seed", x.count(9), 1_000_003);
     }
 
     @Says("TERMS stay):")

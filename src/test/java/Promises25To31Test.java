@@ -333,6 +333,11 @@ public final class Promises25To31Test {
             due("and not tolerable", x.judged(), 1);
         }
         due("none is", audited1().judged(), 2);
+        CoinSampler y = audited1();
+        y.draw();
+        due("one that the second run hit", y.judged(), 1);
+        y.audit(2, 500);
+        due("nor that any more", y.judged(), 2);
     }
 
     @Says("2 it is ACCEPTED,")

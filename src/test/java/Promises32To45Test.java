@@ -120,6 +120,12 @@ public final class Promises32To45Test {
         due("not audited", x.dearest(), NONE);
         x.audit(6, 0);
         due("a hit one", x.dearest(), 6);
+        for (int interval : new int[] {99_998, 99_999}) {
+            CoinSampler y = Sentences.single(99_998, interval, 7);
+            y.draw();
+            y.audit(0, 99_997);
+            due("an error of 1, a taint of 0", y.dearest(), 0);
+        }
     }
 
     @Says("that by which BOUND would be least, were it AUDITED as its BOOK,")
@@ -173,6 +179,14 @@ public final class Promises32To45Test {
         for (int i = 0; i < tolerable.length; i++) {
             due("more() by " + tolerable[i], tolerable(1, tolerable[i]).more(), more[i]);
         }
+        // By a risk of 100 and n 2, 3: 890 by 0.683773, by 0.535842.
+        int[] ofAnotherRisk = {608, 607, 476, 475};
+        for (int i = 0; i < ofAnotherRisk.length; i++) {
+            CoinSampler x = Checks.sampled(1);
+            x.terms(1, 100);
+            x.terms(0, ofAnotherRisk[i]);
+            due("more() by " + ofAnotherRisk[i], x.more(), (i + 1) / 2);
+        }
     }
 
     @Says("(5 with those there are at most)")
@@ -204,6 +218,13 @@ public final class Promises32To45Test {
         due("8 by 600 is none", small.more(), NONE);
         small.terms(0, 8);
         due("8", small.more(), 0);
+        CoinSampler certain = Sentences.single(10, 10, 7);
+        certain.draw();
+        certain.audit(0, 4);
+        certain.terms(0, 6);
+        due("M is 0, 6 is known", certain.more(), 0);
+        certain.terms(0, 5);
+        due("M is 0, and no run makes it less", certain.more(), NONE);
         // M 890 by 100: 8 hits more each; n is 8 or 9 by one run.
         CoinSampler fine = new CoinSampler();
         for (int i = 0; i < 10; i++) {
@@ -294,11 +315,22 @@ public final class Promises32To45Test {
         due("net, projected by one run", x.step(1, 1), 715);
         due("net, projected by two", x.step(2, 1), 623);
         due("all runs", x.step(3, 1), x.bound(3));
+        CoinSampler y = audited3();
+        y.terms(1, 100);
+        // 890 by 0.683773, 890 by 0.264911 by 0.2, 100.
+        due("by another risk", y.step(1, 1), 608 + 47 + 100);
     }
 
     @Says("2 1 if it is ACCEPTED, else 0,")
     static void promise35_accepted() {
         steps(2, 0, 1, 1);
+        CoinSampler x = audited3();
+        x.terms(0, 715);
+        due("825 is too much", x.step(1, 2), 0);
+        x.terms(3, 1);
+        due("net, it is just tolerable", x.step(1, 2), 1);
+        x.terms(0, 714);
+        due("one too much", x.step(1, 2), 0);
     }
 
     @Says("3 how many ITEMS are LACKING.")
@@ -348,6 +380,13 @@ public final class Promises32To45Test {
         CoinSampler x = tolerable(1, 825);
         x.terms(1, 500);
         due("whatever the term is", x.risky(), 50);
+        // Of n 2, without a taint above 0: 890 by UPPER; item 6 is 60 under, which NET takes off.
+        CoinSampler y = Checks.sampled(1);
+        y.audit(6, 99);
+        y.terms(0, 608);
+        due("890 by 0.683773", y.risky(), 100);
+        y.terms(3, 1);
+        due("net, 890 by 0.751003 less 60", y.risky(), 62);
     }
 
     @Says({"found by halving: LOW is 0, HIGH 501; as long as HIGH is more than 1 above LOW: RISK is LOW and HIGH by 2, cut;",
@@ -782,6 +821,12 @@ public final class Promises32To45Test {
             due("were(" + v[i] + ", 1, 1)", x.were(v[i], 1, 1), m[i]);
         }
         due("M now", x.count(2), 890);
+        CoinSampler y = Checks.ledger();
+        due("before a change", y.were(600, 1, 1), 890);
+        y.post(1, 310);
+        due("behind it", y.were(600, 1, 1), 900);
+        y.add(9, 9, 5);
+        due("one item more", y.were(600, 1, 1), 905);
     }
 
     @Says("2 HITS,")

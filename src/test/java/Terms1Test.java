@@ -325,6 +325,32 @@ public final class Terms1Test {
         faulty("item 1 1 5; audit 1 1 1 audit", 1, 24);
     }
 
+    @Says("1 what can't stand there (at it;")
+    static void terms1_fault1_whicheverByteItIs() {
+        for (int sign = 0; sign < 256; sign++) {
+            boolean isLetter = sign >= 'a' && sign <= 'z';
+            boolean isDigit = sign >= '0' && sign <= '9';
+            String there = String.valueOf((char) sign);
+            if (sign == ' ') {
+                continue;
+            }
+            faulty(there + "item 1 2 3;", 1, 0);
+            faulty("item 1 2 3;" + there, 1, 11);
+            if (!isDigit) {
+                faulty("item" + there + "1 2 3;", 1, isLetter ? 0 : 4);
+                faulty("item 1" + there + "2 3;", 1, 6);
+                faulty("item 1 2 -" + there + "3;", 1, 10);
+                faulty("audit 1 2" + there + "3;", 1, 9);
+            }
+            if (!isDigit && sign != '-') {
+                faulty("item 1 2" + there + "3;", 1, 8);
+            }
+            if (!isDigit && sign != ';') {
+                faulty("item 1 2 3" + there + ";", 1, 10);
+            }
+        }
+    }
+
     @Says("the end: how many bytes there are),")
     static void terms1_fault1_theEnd_howManyBytesThereAre() {
         String line = "item 1 1 - 1;";

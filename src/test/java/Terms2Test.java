@@ -67,6 +67,11 @@ public final class Terms2Test {
         for (int k : new int[] {330, 350, 398, 399}) {
             due("upper(400, " + k + ")", x.upper(400, k), 844_738);
         }
+        // Where it is next to 0, few digits of it are left, and in which order it is reckoned counts.
+        due("upper(400, 324)", x.upper(400, 324), 841_727);
+        due("upper(335, 299)", byRisk(500).upper(335, 299), 891_865);
+        due("upper(347, 304)", byRisk(500).upper(347, 304), 877_159);
+        due("upper(390, 327)", byRisk(350).upper(390, 327), 846_523);
         due("upper(400, 300)", x.upper(400, 300), 785_399);
         due("upper(240, 239)", x.upper(240, 239), 955_158);
     }
@@ -105,6 +110,15 @@ public final class Terms2Test {
         due("s would be just the risk by a lesser k", byRisk(125).upper(3, 1), 778_938);
         due("s is a little more than the risk", byRisk(50).upper(1, 0), 950_001);
         due("s is a little more than the risk", byRisk(20).upper(1, 0), 980_001);
+        for (int risk = 1; risk <= 500; risk++) {
+            due("by risk " + risk, byRisk(risk).upper(1, 0), 1_000_000 - 1_000 * risk + (isABitMore(risk) ? 1 : 0));
+        }
+    }
+
+    /** Whether 1 less what is left of 1 by a risk is more than the risk, as doubles. */
+    private static boolean isABitMore(int risk) {
+        double left = Double.parseDouble(String.format(java.util.Locale.ROOT, "0.%03d", 1_000 - risk));
+        return 1 - left > Double.parseDouble(String.format(java.util.Locale.ROOT, "0.%03d", risk));
     }
 
     // ---- SIZE

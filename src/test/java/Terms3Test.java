@@ -81,6 +81,19 @@ public final class Terms3Test {
         due("by one run", y.projected(0), 120);
         y.draw();
         due("by two", y.projected(0), 60);
+        y.clear();
+        y.terms(4, 7);
+        y.draw();
+        y.audit(1, 200);
+        due("a third, as a taint 3,333, by 600", y.projected(0), 199);
+        y.audit(1, 400);
+        due("the same below 0, and 60 of item 6", y.projected(1), 199 + 60);
+        CoinSampler odd = Sentences.single(1_000, 1_001, 7);
+        odd.audit(0, 100);
+        for (int r = 0; r < 3; r++) {
+            odd.draw();
+        }
+        due("9,000 by 1,001, by three runs: 300.3 each", odd.projected(0), 900);
         CoinSampler large = new CoinSampler();
         for (int i = 0; i < 48; i++) {
             large.add(1, i, 99_999);
@@ -191,6 +204,10 @@ public final class Terms3Test {
         due("the first", x.taint(0, 2), 176);
         due("the second, by UPPER of 2, 2", x.taint(1, 2), 22);
         due("each is cut", x.bound(1), 198);
+        x.audit(6, 90);
+        x.audit(1, 254);
+        // 890 by 0.198286 by 0.1533: 27.05..
+        due("cut but once", x.taint(0, 2), 27);
         CoinSampler large = large();
         // 4,799,952 by 0.049999.
         due("many coins", large.bound(1), 239_992);
@@ -208,6 +225,23 @@ public final class Terms3Test {
         y.audit(5, 1_400);
         y.terms(3, 1);
         due("it may be below 0", y.bound(3), -10);
+        CoinSampler z = Sentences.single(300, 600, 7);
+        z.draw();
+        z.audit(0, 600);
+        due("none is certain", z.bound(3), 285);
+        z.terms(3, 1);
+        due("none is certain, net", z.bound(3), 285 - 600);
+        CoinSampler none = new CoinSampler();
+        none.add(1, 1, 1_000);
+        none.interval(1_000);
+        none.draw();
+        none.audit(0, 1_500);
+        none.terms(3, 1);
+        due("no hit, net", none.bound(3), -500);
+        due("no hit, net", none.below(3), 500);
+        none.audit(0, 900);
+        due("no hit, net, the other way round", none.bound(3), 100);
+        due("no hit, net, the other way round", none.below(3), -100);
     }
 
     @Says("It is ACCEPTED, if BOUND is TOLERABLE or less.")
