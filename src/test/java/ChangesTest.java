@@ -1,5 +1,8 @@
+import java.lang.reflect.Method;
+import java.util.Arrays;
 import java.util.LinkedHashMap;
 import java.util.Map;
+import java.util.Set;
 import java.util.function.ToIntFunction;
 
 /** What the calls of promises 2 to 13 change, and that all else stays. */
@@ -7,6 +10,8 @@ public final class ChangesTest {
     private static final int NONE = Sentences.NONE;
     private static final int REFUSED = Sentences.REFUSED;
     private static final int MOST_ITEMS = 8;
+    private static final Set<String> CHANGING = Set.of("feed", "text", "terms", "add", "post", "audit", "forget",
+        "interval", "plan", "draw", "clear");
 
     public static void main(String[] args) {
         Sentences.run(ChangesTest.class);
@@ -62,6 +67,28 @@ public final class ChangesTest {
         Sentences.same("what is there behind " + call, told(x), expected);
     }
 
+    @Says("ON PAPER nothing changes.")
+    static void terms3_onPaper_nothingChanges_whateverIsAsked() {
+        int[] odd = {NONE, 0, 1, 2, 3, 4, 201, 600};
+        for (Method method : Face.METHODS) {
+            if (CHANGING.contains(method.getName())) {
+                continue;
+            }
+            int[] args = new int[method.getParameterCount()];
+            Arrays.fill(args, 600);
+            int mixes = (int) Math.pow(odd.length, Math.min(2, args.length));
+            for (int mix = 0; mix < mixes; mix++) {
+                for (int i = 0; i < Math.min(2, args.length); i++) {
+                    args[args.length - 1 - i] = odd[(i == 0 ? mix : mix / odd.length) % odd.length];
+                }
+                CoinSampler x = busy(2);
+                Map<String, Integer> before = told(x);
+                Face.answer(x, method.getName(), args);
+                Sentences.same("what is there behind " + method.getName() + Arrays.toString(args), told(x), before);
+            }
+        }
+    }
+
     @Says("Twenty bytes come behind those on THE TAPE,")
     static void promise2_changesTheTapeAlone() {
         changes(busy(2), "feed", x -> x.feed(1, 2, 3, 4, 5), 40, Map.of("count 7", 40));
@@ -108,6 +135,7 @@ public final class ChangesTest {
         changes(busy(0), "post", x -> x.post(1, 30), 300, Map.of("book of 1", 30, "audited of 1", NONE));
         changes(busy(0), "post", x -> x.post(1, 300), 300, Map.of("audited of 1", NONE));
         changes(busy(0), "post", x -> x.post(3, 200), -200, Map.of("book of 3", 200));
+        changes(busy(0), "post", x -> x.post(2, 500), 500, Map.of());
     }
 
     @Says("AUDITED: what it was before")

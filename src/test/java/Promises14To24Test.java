@@ -86,6 +86,8 @@ public final class Promises14To24Test {
         }
         x.audit(1, 0);
         due("as nothing", x.item(1, 3), 0);
+        x.audit(1, 300);
+        due("as its book", x.item(1, 3), 300);
     }
 
     @Says("4 ERROR (0 if it wasn't),")

@@ -262,6 +262,38 @@ public final class Promises25To31Test {
         refusedWithoutARun("bound", 5);
     }
 
+    /** As many hits as there can be: each of five runs hits each of 48 items, all of which were worth nothing. */
+    private static CoinSampler of240Hits() {
+        CoinSampler x = new CoinSampler();
+        for (int i = 0; i < 48; i++) {
+            x.add(1, i, 99_998);
+            x.audit(i, 0);
+        }
+        x.interval(99_999);
+        for (int start : new int[] {20_067, 45_079, 31_797, 83_229, 12_565}) {
+            due("draw", x.draw(), start);
+        }
+        return x;
+    }
+
+    @Says("The k-th TAINT above 0 of all HITS (from 0),")
+    static void promise28_of240Hits() {
+        CoinSampler x = of240Hits();
+        due("hits", x.count(5), 240);
+        due("the last hit's item", x.hit(239, 0), 47);
+        due("its coin, 47 intervals behind the start", x.hit(239, 1), 12_565 + 47 * 99_999);
+        due("its run", x.hit(239, 2), 4);
+        due("hits of the first run", x.step(1, 0), 48);
+        due("the last one's hits", x.item(47, 7), 5);
+        due("the last taint", x.taint(239, 0), 239);
+        // 4,799,904 by 1,000,000 less 955,158.
+        due("the last rise", x.taint(239, 2), 215_237);
+        due("behind it", x.taint(240, 0), -2);
+        due("basic: by 0.012405", x.bound(0), 59_542);
+        due("as much as M, less what is cut", x.bound(3) > 4_799_904 - 241 && x.bound(3) <= 4_799_904 ? 1 : 0, 1);
+        due("the last item that is to be looked at", x.drawn(47), 47);
+    }
+
     @Says("BOUND (3),")
     static void promise29_ofAFullLedger() {
         CoinSampler x = new CoinSampler();

@@ -501,6 +501,8 @@ public final class Promises32To45Test {
         x.audit(0, 0);
         x.audit(1, 0);
         due("5, 6", x.trial(201, 1), 2);
+        x.audit(6, 90);
+        due("5 alone, though 6 is right", x.trial(201, 1), 1);
         due("no coins", withoutCoins().trial(1, 1), 0);
     }
 

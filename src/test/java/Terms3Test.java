@@ -81,6 +81,9 @@ public final class Terms3Test {
         due("by one run", y.projected(0), 120);
         y.draw();
         due("by two", y.projected(0), 60);
+        CoinSampler five = Checks.sampled(5);
+        five.audit(1, 240);
+        due("by five, two hits of 24", five.projected(0), 48);
         y.clear();
         y.terms(4, 7);
         y.draw();
