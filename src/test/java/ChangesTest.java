@@ -75,7 +75,7 @@ public final class ChangesTest {
                 continue;
             }
             int[] args = new int[method.getParameterCount()];
-            Arrays.fill(args, 600);
+            Arrays.fill(args, 601);
             int mixes = (int) Math.pow(odd.length, Math.min(2, args.length));
             for (int mix = 0; mix < mixes; mix++) {
                 for (int i = 0; i < Math.min(2, args.length); i++) {
