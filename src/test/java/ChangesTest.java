@@ -17,7 +17,7 @@ public final class ChangesTest {
         Sentences.run(ChangesTest.class);
     }
 
-    /** The ledger with audits, an interval, other terms, an earlier fault, bytes on the tape, s moved on; 0 or 2 runs. */
+    /** The ledger with audits, an interval, other terms, an earlier fault, a tape, s moved on; 0 or 2 runs. */
     private static CoinSampler busy(int runs) {
         CoinSampler x = Checks.audited(0);
         int[] terms = {777, 60, 3, 1, 99};

@@ -15,7 +15,8 @@ import java.util.regex.Pattern;
 public final class DocumentTest {
     private static final Path DOCUMENT = Path.of("../shared/DOC.md");
     static final List<Class<?>> TESTS = List.of(FaceTest.class, Terms1Test.class, Terms2Test.class, Terms3Test.class,
-        ChangesTest.class, Promises1To13Test.class, Promises14To24Test.class, Promises25To31Test.class, Promises32To45Test.class);
+        ChangesTest.class, Promises1To13Test.class, Promises14To24Test.class, Promises25To31Test.class,
+        Promises32To45Test.class);
 
     private static int wrong = 0;
 
