@@ -1,15 +1,19 @@
 import java.lang.reflect.Method;
+import java.util.ArrayList;
 import java.util.Arrays;
 import java.util.LinkedHashMap;
+import java.util.List;
 import java.util.Map;
 import java.util.Set;
+import java.util.function.Supplier;
 import java.util.function.ToIntFunction;
 
-/** What the calls of promises 2 to 13 change, and that all else stays. */
+/** What the calls of promises 2 to 13 change, that all else stays, and what each term counts for. */
 public final class ChangesTest {
     private static final int NONE = Sentences.NONE;
     private static final int REFUSED = Sentences.REFUSED;
     private static final int MOST_ITEMS = 8;
+    private static final int[] ODD = {NONE, 0, 1, 2, 3, 4, 201, 600};
     private static final Set<String> CHANGING = Set.of("feed", "text", "terms", "add", "post", "audit", "forget",
         "interval", "plan", "draw", "clear");
 
@@ -67,26 +71,71 @@ public final class ChangesTest {
         Sentences.same("what is there behind " + call, told(x), expected);
     }
 
+    /** So many arguments, the last two of them every mix of odd numbers. */
+    private static List<int[]> mixes(int count) {
+        List<int[]> mixes = new ArrayList<>();
+        int varied = Math.min(2, count);
+        for (int mix = 0; mix < Math.pow(ODD.length, varied); mix++) {
+            int[] args = new int[count];
+            Arrays.fill(args, 601);
+            for (int i = 0; i < varied; i++) {
+                args[count - 1 - i] = ODD[(i == 0 ? mix : mix / ODD.length) % ODD.length];
+            }
+            mixes.add(args);
+        }
+        return mixes;
+    }
+
     @Says("ON PAPER nothing changes.")
     static void terms3_onPaper_nothingChanges_whateverIsAsked() {
-        int[] odd = {NONE, 0, 1, 2, 3, 4, 201, 600};
         for (Method method : Face.METHODS) {
-            if (CHANGING.contains(method.getName())) {
-                continue;
-            }
-            int[] args = new int[method.getParameterCount()];
-            Arrays.fill(args, 601);
-            int mixes = (int) Math.pow(odd.length, Math.min(2, args.length));
-            for (int mix = 0; mix < mixes; mix++) {
-                for (int i = 0; i < Math.min(2, args.length); i++) {
-                    args[args.length - 1 - i] = odd[(i == 0 ? mix : mix / odd.length) % odd.length];
+            if (!CHANGING.contains(method.getName())) {
+                for (int[] args : mixes(method.getParameterCount())) {
+                    CoinSampler x = busy(2);
+                    Map<String, Integer> before = told(x);
+                    Face.answer(x, method.getName(), args);
+                    Sentences.same("what is there behind " + method.getName() + Arrays.toString(args), told(x), before);
                 }
-                CoinSampler x = busy(2);
-                Map<String, Integer> before = told(x);
-                Face.answer(x, method.getName(), args);
-                Sentences.same("what is there behind " + method.getName() + Arrays.toString(args), told(x), before);
             }
         }
+    }
+
+    /** What all calls answer that change nothing, by name and arguments, each of a new object. */
+    private static Map<String, Integer> answers(Supplier<CoinSampler> made) {
+        Map<String, Integer> answers = new LinkedHashMap<>();
+        for (Method method : Face.METHODS) {
+            if (!CHANGING.contains(method.getName())) {
+                CoinSampler x = made.get();
+                for (int[] args : mixes(method.getParameterCount())) {
+                    answers.put(method.getName() + Arrays.toString(args), Face.answer(x, method.getName(), args));
+                }
+            }
+        }
+        return answers;
+    }
+
+    /** By another TERM only those answers are others that it counts for. */
+    private static void countsFor(int term, int v, String names) {
+        Map<String, Integer> before = answers(() -> Checks.audited(3));
+        Map<String, Integer> after = answers(() -> {
+            CoinSampler x = Checks.audited(3);
+            x.terms(term, v);
+            return x;
+        });
+        before.keySet().removeIf(call -> call.matches(names));
+        after.keySet().removeIf(call -> call.matches(names));
+        Sentences.same("what term " + term + " doesn't count for", after, before);
+    }
+
+    @Says("TERMS (least to greatest; at first):")
+    static void terms1_terms_whatEachCountsFor() {
+        String accepted = "judged.*|more.*|step.*, 2]|risky.*";
+        String bounds = "bound.[34]]|below.3]|would.*|dearest.*|step.*, 1]";
+        countsFor(0, 600, accepted + "|bound.4]|sizes.*");
+        countsFor(1, 77, accepted + "|" + bounds + "|bound.*|below.*|taint.*, 2]|upper.*|size.*");
+        countsFor(2, 4, "size\\[.*");
+        countsFor(3, 1, accepted + "|" + bounds);
+        countsFor(4, 5, "none");
     }
 
     @Says("Twenty bytes come behind those on THE TAPE,")

@@ -572,6 +572,7 @@ public final class Promises1To13Test {
         due("as nothing", x.audit(1, 0), NONE);
         due("forget that", x.forget(1), 0);
         due("without coins", x.forget(4), NONE);
+        due("more than its book", x.forget(6), 99);
     }
 
     @Says("-2.")
@@ -679,12 +680,17 @@ public final class Promises1To13Test {
         due("none is certain", x.certain(NONE), 0);
         due("a run of it", x.draw(), 20_067);
         due("one hit", x.count(5), 1);
+        x.clear();
+        due("told again", x.interval(99_999), 48);
     }
 
     @Says("SIZE.")
     static void promise11_answersSize() {
         due("the least", tolerable(2_460).plan(), 1);
         due("one more", tolerable(2_459).plan(), 2);
+        CoinSampler all = tolerable(2_590);
+        all.terms(2, 9);
+        due("all coins are tolerable", all.plan(), 1);
         CoinSampler x = Sentences.single(99_999, 5, 7);
         x.terms(0, 746);
         due("the greatest", x.plan(), 400);

@@ -180,6 +180,12 @@ public final class Promises25To31Test {
             least.audit(0, audited);
             due("a taint of " + (10_000 - audited), least.taint(0, 1), audited < 10_000 ? 1 : -2);
         }
+        CoinSampler none = Sentences.single(20_000, 20_001, 7);
+        none.draw();
+        none.audit(0, 19_999);
+        due("a hit", none.count(5), 1);
+        due("an error that makes no taint", none.item(0, 4), 1);
+        ranked(none);
     }
 
     @Says("the greatest first (of like ones that of the lower HIT),")
@@ -250,6 +256,8 @@ public final class Promises25To31Test {
             x.terms(0, tolerable[i]);
             due("left of " + tolerable[i], x.bound(4), left[i]);
         }
+        x.forget(6);
+        due("left, though something is lacking", x.bound(4), 9_999_174);
     }
 
     @Says("-10,000,000: what,")
@@ -292,6 +300,10 @@ public final class Promises25To31Test {
         due("basic: by 0.012405", x.bound(0), 59_542);
         due("as much as M, less what is cut", x.bound(3) > 4_799_904 - 241 && x.bound(3) <= 4_799_904 ? 1 : 0, 1);
         due("the last item that is to be looked at", x.drawn(47), 47);
+        String line = "1/47 99998x5 =0";
+        for (int i = 0; i <= line.length(); i++) {
+            due("its line's byte " + i, x.line(47, i), i < line.length() ? line.charAt(i) : NONE);
+        }
     }
 
     @Says("BOUND (3),")

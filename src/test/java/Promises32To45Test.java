@@ -126,6 +126,11 @@ public final class Promises32To45Test {
             y.audit(0, 99_997);
             due("an error of 1, a taint of 0", y.dearest(), 0);
         }
+        CoinSampler lacking = Sentences.full();
+        lacking.interval(9);
+        lacking.draw();
+        lacking.audit(30, 0);
+        due("all others lacking", lacking.dearest(), 30);
     }
 
     @Says("that by which BOUND would be least, were it AUDITED as its BOOK,")
@@ -340,6 +345,17 @@ public final class Promises32To45Test {
         due("by one run", x.step(1, 3), 4);
         due("by two", x.step(2, 3), 5);
         due("by three", x.step(3, 3), 5);
+        // Starts 267, 478, 597, 429, 157: coins of items 2, 3, 4, 3, 1.
+        CoinSampler late = new CoinSampler();
+        for (int i = 0; i < 5; i++) {
+            late.add(1, i, 120);
+        }
+        late.interval(600);
+        int[] lacking = {1, 2, 3, 3, 4};
+        for (int r = 0; r < 5; r++) {
+            late.draw();
+            due("lacking by " + (r + 1), late.step(r + 1, 3), lacking[r]);
+        }
     }
 
     @Says("-10,000,000: r,")
@@ -523,6 +539,8 @@ public final class Promises32To45Test {
         CoinSampler small = Sentences.single(8, 600, 7);
         due("the last coin", small.trial(8, 3), 8);
         due("behind it", small.trial(9, 3), 0);
+        small.draw();
+        due("behind it, when a run was drawn", small.trial(600, 3), 0);
         due("no coins", withoutCoins().trial(1, 3), 0);
     }
 
