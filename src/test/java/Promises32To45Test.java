@@ -699,6 +699,14 @@ public final class Promises32To45Test {
         last.add(1, 2, 1);
         last.audit(1, 0);
         worst(last, 600, 10_000);
+        // 47 items of two coins each, then the last six of 100.
+        CoinSampler full = new CoinSampler();
+        for (int i = 0; i < 48; i++) {
+            full.add(1, i, i < 47 ? 2 : 6);
+        }
+        full.interval(100);
+        full.audit(47, 0);
+        worst(full, 95, 10_000);
     }
 
     @Says("the lowest of like ones (what 0);")

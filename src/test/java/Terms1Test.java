@@ -32,6 +32,63 @@ public final class Terms1Test {
         due("49 told by a text", Checks.tell(x, Sentences.items(49)), -33);
     }
 
+    /** 48 items of 99,998 coins, an interval of 99,999: a start up to 99,951 hits them all. */
+    private static CoinSampler hitByEachStart(int runs) {
+        CoinSampler x = new CoinSampler();
+        for (int i = 0; i < 48; i++) {
+            x.add(i, i, 99_998);
+        }
+        x.interval(99_999);
+        for (int r = 0; r < runs; r++) {
+            x.draw();
+        }
+        return x;
+    }
+
+    @Says("THE LEDGER: ITEMS, 48 at most,")
+    static void terms1_items_48OfThem_allHit() {
+        CoinSampler x = hitByEachStart(5);
+        due("how many are lacking", x.lacking(-1), 48);
+        due("lacking by the first run", x.step(1, 3), 48);
+        due("the last one that is", x.lacking(47), 47);
+        due("a start's hits", x.trial(99_951, 0), 48);
+        due("hits of the next start", x.trial(99_952, 0), 47);
+        due("items not audited", x.trial(1, 1), 48);
+        for (int i = 0; i < 48; i++) {
+            x.audit(i, 0);
+        }
+        due("items that are hit", x.count(6), 48);
+        due("items that were audited", x.count(8), 48);
+        due("starts that catch all", x.caught(48), 99_951);
+        due("starts that catch all but one", x.caught(47), 48);
+        due("the last two by all starts but 99,952 and 99,953", x.both(46, 47), 99_997);
+        due("hits of another interval", x.were(99_999, 1, 2), 48);
+        due("items of these", x.were(99_999, 1, 3), 48);
+        due("covered", x.covered(), 1_000);
+        due("a coin of the fifth run", x.coin(12_565, 2), 1);
+        due("its last one", x.coin(12_565 + 47 * 99_999, 2), 1);
+        due("accounts", x.accounts(-1), 48);
+        due("the last account", x.accounts(47), 47);
+        due("hits of its items", x.account(47, 2), 5);
+    }
+
+    @Says("THE LEDGER: ITEMS, 48 at most,")
+    static void terms1_items_48OfThem_allCertain() {
+        CoinSampler x = hitByEachStart(0);
+        due("certain", x.interval(99_998), 48);
+        x.draw();
+        x.audit(47, 0);
+        due("the dearest", x.dearest(), 47);
+        for (int i = 0; i < 48; i++) {
+            x.audit(i, 99_997 - i);
+        }
+        due("known", x.projected(2), 48 * 49 / 2);
+        due("would be known", x.would(47, 99_998), 47 * 48 / 2);
+        due("items that aren't audited by a start", x.trial(1, 1), 0);
+        due("certain ones of another interval", x.were(1, 1, 0), 48);
+        due("looked at by that", x.were(1, 1, 3), 48);
+    }
+
     @Says("numbered as they are told from 0 on:")
     static void terms1_items_numberedAsTheyAreToldFrom0On() {
         CoinSampler x = new CoinSampler();
