@@ -769,6 +769,9 @@ public final class Promises32To45Test {
         CoinSampler small = Sentences.single(99_998, 99_999, 7);
         small.audit(0, 99_997);
         chance(small, 99_998, 99_999);
+        CoinSampler manyCertain = Checks.audited(0);
+        due("certain", manyCertain.interval(91), 4);
+        chance(manyCertain, 90, 91);
     }
 
     @Says("in lowest terms, what 0 upper, 1 lower number")
